@@ -87,7 +87,7 @@ public final class EvenFerry {
         now = new State(first);
         marks = new State[MARKS];
         for (int i = 0; i < marks.length; i++) {
-            marks[i] = new State(null);
+            marks[i] = new State(first);
         }
         day = new Day(first, MOST_PERSONS);
         trial = new Day(first, MOST_DRAWN);
@@ -212,6 +212,7 @@ public final class EvenFerry {
     }
 
     public int turn(int person, int minute) throws NoSuchElementException {
+        knowDay();
         if (!mayTurn(person, minute)) {
             throw new NoSuchElementException("no turner who waits then");
         }
@@ -219,6 +220,7 @@ public final class EvenFerry {
     }
 
     public int asks(int minute) {
+        knowDay();
         int who = NONE;
         int most = 0;
         for (int person = 0; person < now.river.people.size; person++) {
@@ -234,7 +236,7 @@ public final class EvenFerry {
     }
 
     public int choice(int what) {
-        knowChoices();
+        choices.weigh(now, trial);
         switch (what) {
             case 0: return get(choices.costs, choices.cheapest);
             case 1: return choices.cheapest;
@@ -254,12 +256,12 @@ public final class EvenFerry {
     }
 
     public int rests() {
-        knowChoices();
+        choices.weigh(now, trial);
         return choices.resting;
     }
 
     public int rest(int i) {
-        knowChoices();
+        choices.weigh(now, trial);
         return i < 0 || i >= choices.resting ? NONE : get(choices.restBits, i);
     }
 
@@ -343,9 +345,10 @@ public final class EvenFerry {
         }
         if (!back) {
             marks[mark].take(now);
+            marks[mark].laid = true;
             return true;
         }
-        if (marks[mark].river == null) {
+        if (!marks[mark].laid) {
             return false;
         }
         now.take(marks[mark]);
@@ -403,12 +406,6 @@ public final class EvenFerry {
         }
     }
 
-    private void knowChoices() {
-        if (!choices.known) {
-            choices.weigh(now, trial);
-        }
-    }
-
     private void beginTrial(int law) {
         River river = now.river;
         trial.begin(river, law, river.people, river.people.sides);
@@ -445,11 +442,8 @@ public final class EvenFerry {
     }
 
     private boolean mayTurn(int person, int minute) {
-        if (!isPerson(person) || !isMinute(minute) || get(now.river.kinds, person) != TURNER) {
-            return false;
-        }
-        knowDay();
-        return day.isWaitingBehind(person, minute);
+        return isPerson(person) && isMinute(minute) && get(now.river.kinds, person) == TURNER
+                && day.isWaitingBehind(person, minute);
     }
 
     private int gainByTurning(int person, int minute) {
@@ -651,7 +645,7 @@ public final class EvenFerry {
         }
 
         private int kind() {
-            return get(tape.kinds, token);
+            return token >= 0 && token < tape.kinds.length ? tape.kinds[token] : END;
         }
 
         private void step() {
@@ -661,8 +655,8 @@ public final class EvenFerry {
         }
 
         private void wrong(int kind) {
-            if (fault == 0) {
-                fault = kind + 16 * get(tape.places, token);
+            if (fault == 0 && token >= 0 && token < tape.places.length) {
+                fault = kind + 16 * tape.places[token];
             }
         }
 
@@ -714,15 +708,13 @@ public final class EvenFerry {
                 case ROOM: river.room = number(1, 40); break;
                 case TRIP: river.trip = number(0, 99); break;
                 case BOATS: river.boats = number(1, 2); break;
-                case SIDE: sideNumbers(); break;
+                case SIDE:
+                    river.first = number(1, 8);
+                    expect(OF);
+                    river.second = number(river.first + 1, 9);
+                    break;
                 default: river.come = number(0, 1000); break;
             }
-        }
-
-        private void sideNumbers() {
-            river.first = number(1, 8);
-            expect(OF);
-            river.second = number(river.first + 1, 9);
         }
 
         private void personLine() {
@@ -905,6 +897,9 @@ public final class EvenFerry {
 
         /** The stack has room for what laws of so few within one another hold back. */
         int lawValue(int law, int[] facts, int[] stack) {
+            if (law == NONE) {
+                return get(facts, 0) == get(facts, 1) && 0 < get(facts, 0) ? 1 : 0;
+            }
             int top = 0;
             int end = Math.min(get(lawStarts, law + 1), code.length);
             for (int i = Math.max(0, get(lawStarts, law)); i < end && top < stack.length; i++) {
@@ -966,7 +961,7 @@ public final class EvenFerry {
             set(weights, size, weight);
             set(counts, size, count);
             int place = size;
-            while (place > 0 && timeAt(place - 1) > time) {
+            while (place > 0 && get(times, get(order, place - 1)) > time) {
                 set(order, place, get(order, place - 1));
                 place--;
             }
@@ -1120,16 +1115,27 @@ public final class EvenFerry {
             if (next < crowd.size) {
                 soon = Math.min(soon, crowd.timeAt(next));
             }
-            boolean watched = river.isTimed(law) && left.size() + right.size() > 0;
+            boolean boatThere = false;
             for (int boat = 0; boat < river.boats; boat++) {
                 int back = get(boatBack, boat);
-                if (back > minute) {
-                    soon = Math.min(soon, back);
-                } else if (watched) {
-                    soon = minute + 1;
-                }
+                boatThere = boatThere || back <= minute;
+                soon = back > minute ? Math.min(soon, back) : soon;
             }
-            return soon;
+            boolean watched = boatThere && river.isTimed(law) && left.size() + right.size() > 0;
+            return watched ? firstHolding(minute + 1, soon) : soon;
+        }
+
+        /** The first minute, or the last one given, in which the law holds though nobody comes or goes till then. */
+        private int firstHolding(int from, int until) {
+            gatherFacts(from);
+            for (int minute = from; minute < until; minute++) {
+                if (river.lawValue(law, facts, stack) != 0) {
+                    return minute;
+                }
+                set(facts, 4, get(facts, 4) + 1);
+                set(facts, 5, minute + 1);
+            }
+            return until;
         }
 
         void come(int minute) {
@@ -1145,7 +1151,11 @@ public final class EvenFerry {
         }
 
         boolean wouldRing(int minute) {
-            return left.size() + right.size() > 0 && freeBoat(minute) != NONE && holds(minute);
+            if (left.size() + right.size() == 0 || freeBoat(minute) == NONE) {
+                return false;
+            }
+            gatherFacts(minute);
+            return river.lawValue(law, facts, stack) != 0;
         }
 
         boolean wouldRingWith(int side, int guests, int minute) {
@@ -1165,23 +1175,20 @@ public final class EvenFerry {
             return NONE;
         }
 
-        private boolean holds(int minute) {
-            int onLeft = left.countWithGuests();
-            int onRight = right.countWithGuests();
-            if (law == NONE) {
-                return onLeft == onRight && 0 < onLeft;
-            }
-            set(facts, 0, onLeft);
-            set(facts, 1, onRight);
+        /** In the order of their words, as the laws are written. */
+        private void gatherFacts(int minute) {
+            set(facts, 0, left.countWithGuests());
+            set(facts, 1, right.countWithGuests());
             set(facts, 2, left.loadWithGuests());
             set(facts, 3, right.loadWithGuests());
             set(facts, 4, minute - Math.min(earliest(left, minute), earliest(right, minute)));
             set(facts, 5, minute);
-            return river.lawValue(law, facts, stack) != 0;
         }
 
         private int earliest(Bank bank, int minute) {
-            return bank.head < bank.tail ? get(crowd.times, get(bank.row, bank.head)) : minute;
+            boolean somebody = bank.head >= 0 && bank.head < bank.tail && bank.head < bank.row.length;
+            int first = somebody ? bank.row[bank.head] : NONE;
+            return first >= 0 && first < crowd.times.length ? crowd.times[first] : minute;
         }
 
         void goOver(int minute) {
@@ -1266,6 +1273,9 @@ public final class EvenFerry {
         boolean known;
 
         void weigh(State state, Day trial) {
+            if (known) {
+                return;
+            }
             River river = state.river;
             int number = Math.min(MOST_CHOICES, 1 << river.choosers);
             for (int bits = 0; bits < number; bits++) {
@@ -1383,12 +1393,13 @@ public final class EvenFerry {
         }
     }
 
-    /** The river, the law that goes and the told ringings, now or on a mark; without a river nothing is on the mark. */
+    /** The river, the law that goes and the told ringings, now or on a mark that has been laid. */
     private static final class State {
         final int[] told = new int[MOST_TOLD];
         River river;
         int law = NONE;
         int tolds;
+        boolean laid;
 
         State(River river) {
             this.river = river;
