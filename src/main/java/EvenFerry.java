@@ -640,7 +640,7 @@ public final class EvenFerry {
             for (int k = 0; k <= MOST_SIGNS && fault == 0 && kind() != END; k++) {
                 line();
             }
-            river.code = Arrays.copyOf(code, Math.min(written, code.length));
+            river.code = Arrays.copyOf(code, Math.max(0, Math.min(written, code.length)));
             return fault;
         }
 

@@ -13,6 +13,7 @@ final class ChanceTest {
         lotsByHand();
         lotsOfAll();
         lotsFollowTheRiver();
+        lotsOneBehindAnother();
         Check.end();
     }
 
@@ -165,5 +166,19 @@ final class ChanceTest {
         Check.due("lots(8, 1, 3) of another river", x.lots(8, 1, 3), 300);
         x.mark(0, true);
         Check.due("lots(8, 1, 2) of the marked river", x.lots(8, 1, 2), waited);
+    }
+
+    /** What was drawn before, with another seed or number of days, does not matter. */
+    private static void lotsOneBehindAnother() {
+        int[][] asked = {{5, 2}, {0, 2}, {0, 3}, {0, 2}, {5, 3}, {5, 1}, {9999, 1}, {0, 1}};
+        EvenFerry x = Check.ferry("come 130;");
+        for (int[] a : asked) {
+            EvenFerry fresh = Check.ferry("come 130;");
+            for (int what = 0; what < 5; what++) {
+                Check.due("lots(" + a[0] + ", " + a[1] + ", " + what + ")", x.lots(a[0], a[1], what),
+                        fresh.lots(a[0], a[1], what));
+            }
+        }
+        Check.due("lots(5, 2, 1) is not lots(5, 3, 1)", x.lots(5, 2, 1) < x.lots(5, 3, 1), true);
     }
 }
