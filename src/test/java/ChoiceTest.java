@@ -1,107 +1,183 @@
 /** Promises 14 to 17: which sides to choose, and sides at rest. */
 final class ChoiceTest {
+    private static final int[] OTHERS = {Integer.MIN_VALUE, -1, Integer.MAX_VALUE};
+
     public static void main(String[] args) {
-        withoutChoosers();
-        two();
-        bitsAreNumbersAmongChoosers();
-        nothingToPay();
-        neverAtRest();
-        eight();
+        bits();
+        least();
+        leastOfEqualOnes();
+        atRest();
+        choice();
+        chosen();
+        rests();
+        rest();
         Check.end();
     }
 
-    private static void withoutChoosers() {
-        EvenFerry x = Check.ferry("law 1;person a left at 3 weight 1 cost 2 plain;person b left at 4 weight 1 cost 1 dog;");
-        Check.due("choice(0)", x.choice(0), 9);
-        Check.due("choice(1)", x.choice(1), 0);
-        Check.due("chosen(0)", x.chosen(0), 9);
-        Check.due("chosen(1)", x.chosen(1), -1);
-        Check.due("rests()", x.rests(), 1);
-        Check.due("rest(0)", x.rest(0), 0);
-        Check.due("rest(1)", x.rest(1), -1);
-    }
-
-    private static void two() {
-        EvenFerry x = Check.ferry("person a left at 0 weight 1 cost 1 chooser;person b left at 10 weight 1 cost 2 chooser;");
-        int night = 1440 + 2 * 1430;
-        int[] costs = {night, 10, 10, night};
-        for (int bits = 0; bits < 4; bits++) {
-            Check.due("chosen(" + bits + ")", x.chosen(bits), costs[bits]);
+    private static void costs(EvenFerry x, int... due) {
+        for (int sides = 0; sides < due.length; sides++) {
+            Check.due("chosen(" + sides + ")", x.chosen(sides), due[sides]);
         }
-        Check.due("chosen(4)", x.chosen(4), -1);
-        Check.due("chosen(-1)", x.chosen(-1), -1);
-        Check.due("choice(0)", x.choice(0), 10);
-        Check.due("choice(1), of equal ones the least", x.choice(1), 1);
-        Check.due("choice(2)", x.choice(2), -1);
-        Check.due("choice(-1)", x.choice(-1), -1);
-        Check.due("rests()", x.rests(), 2);
-        Check.due("rest(0)", x.rest(0), 1);
-        Check.due("rest(1)", x.rest(1), 2);
-        Check.due("rest(2)", x.rest(2), -1);
-        Check.due("rest(-1)", x.rest(-1), -1);
-        Check.due("all(0): as told", x.all(0), night);
-        Check.due("person(0, 0): as told", x.person(0, 0), 0);
     }
 
-    private static void bitsAreNumbersAmongChoosers() {
-        EvenFerry x = Check.ferry("law right=6;person a right at 0 weight 1 cost 1 plain;"
-                + "person b right at 1 weight 1 cost 1 chooser;person c left at 2 weight 1 cost 1 cart;"
-                + "person d left at 3 weight 1 cost 1 chooser;");
-        int night = 1440 + 1439 + 1438 + 1437;
-        int[] costs = {night, night, night, 3 + 2 + 1 + 0};
-        for (int bits = 0; bits < 4; bits++) {
-            Check.due("chosen(" + bits + ")", x.chosen(bits), costs[bits]);
+    private static void resting(EvenFerry x, int... due) {
+        Check.due("rests()", x.rests(), due.length);
+        for (int i = 0; i < due.length; i++) {
+            Check.due("rest(" + i + ")", x.rest(i), due[i]);
         }
-        Check.due("choice(1)", x.choice(1), 3);
-        // Alone nobody gains from 0; from 1 or 2 the other one does.
-        Check.due("rests()", x.rests(), 2);
-        Check.due("rest(0)", x.rest(0), 0);
-        Check.due("rest(1)", x.rest(1), 3);
+        Check.due("rest(" + due.length + ")", x.rest(due.length), -1);
     }
 
-    private static void nothingToPay() {
-        EvenFerry x = Check.ferry("person a left at 0 weight 1 cost 1 plain;person b left at 3 weight 1 cost 0 chooser;");
+    /** Two who are even if they choose otherwise; who comes first pays 1, who comes later pays 2. */
+    private static EvenFerry two() {
+        return Check.ferry("person a left at 0 weight 1 cost 1 chooser;person b left at 10 weight 1 cost 2 chooser;");
+    }
+
+    private static final int NIGHT = 1440 + 2 * 1430;
+
+    private static String eight() {
+        StringBuilder text = new StringBuilder();
+        for (int i = 0; i < 8; i++) {
+            text.append(People.one("p" + (char) ('a' + i), "left", i, "chooser"));
+        }
+        return text.toString();
+    }
+
+    private static void bits() {
+        Check.says(15, "CHOICE: sides of all choosers, as bits (their numbers among choosers, 1: right)");
+        // Weights tell them apart: the second and the fourth told are choosers 0 and 1.
+        EvenFerry x = Check.ferry("law lload=2 and rload=5 and minute=50 or(lload=5 and rload=2 and minute=60)"
+                + "or(lload=7 and minute=70)or(rload=7 and minute=80);" + People.person("a", "right", 0, 0, 1, "plain")
+                + People.person("b", "right", 0, 2, 0, "chooser") + People.person("c", "left", 0, 0, 0, "cart")
+                + People.person("d", "left", 0, 5, 0, "chooser"));
+        // 0: both left; 1: b right; 2: d right; 3: both right.
+        costs(x, 70, 60, 50, 80);
+        Check.due("all(0), as told: b right, d left", x.all(0), 60);
+        // Others keep their sides.
+        Check.due("person(1, 0)", x.person(1, 0), 1);
+        Check.due("person(3, 0)", x.person(3, 0), 0);
+    }
+
+    private static void least() {
+        Check.says(14, "BEST: by which the COST of all is least");
+        EvenFerry x = Check.ferry(People.plain("a", "left", 0) + People.one("b", "left", 3, "chooser"));
+        costs(x, 1440 + 1437, 3);
         Check.due("choice(0)", x.choice(0), 3);
         Check.due("choice(1)", x.choice(1), 1);
-        Check.due("rests(): who pays nothing is at rest", x.rests(), 2);
+        // Least for all, though the chooser alone would have it better on the left.
+        EvenFerry all = Check.ferry("law lload=0 and rload=0 and minute=20 or lload;trip 99;"
+                + People.person("a", "right", 0, 0, 1, "plain") + People.person("b", "left", 10, 1, 1, "chooser")
+                + People.person("c", "right", 12, 0, 50, "plain"));
+        // On the left b goes at once with a, and c waits for the boat and the law; on the right nobody goes.
+        costs(all, 10 + 0 + 50 * 1428, 1440 + 1430 + 50 * 1428);
+        Check.due("choice(1)", all.choice(1), 0);
+        Check.due("choice(0) of eight", Check.ferry("law left=right and 15<left+right;" + eight()).choice(0), 28);
     }
 
-    /** One wants to be where the other is, the other where the one is not. */
-    private static void neverAtRest() {
-        EvenFerry x = Check.ferry("room 1;trip 9;law lload=3 and rload=0 and minute=5 or (lload=0 and rload=3 and minute=5)"
-                + "or(lload=1 and rload=2 or(lload=2 and rload=1)and wait=9);"
-                + "person a left at 0 weight 1 cost 1 chooser;person b left at 1 weight 2 cost 1 chooser;");
-        int apart = x.chosen(1);
-        int along = x.chosen(0);
-        Check.due("chosen(2)", x.chosen(2), apart);
-        Check.due("chosen(3)", x.chosen(3), along);
-        int best = Math.min(apart, along);
-        Check.due("choice(0)", x.choice(0), best);
-        Check.due("choice(1)", x.choice(1), along <= apart ? 0 : 1);
+    private static void leastOfEqualOnes() {
+        Check.says(14, "of equal ones the least as bits");
+        EvenFerry x = two();
+        costs(x, NIGHT, 10, 10, NIGHT);
+        Check.due("choice(1)", x.choice(1), 1);
+        EvenFerry y = Check.ferry("law 1;" + People.one("a", "right", 0, "chooser") + People.one("b", "right", 0, "chooser"));
+        costs(y, 0, 0, 0, 0);
+        Check.due("choice(1)", y.choice(1), 0);
+        EvenFerry z = Check.ferry("law left=right and 15<left+right;" + eight());
+        Check.due("choice(1), four of eight", z.choice(1), 15);
     }
 
-    private static void eight() {
-        StringBuilder text = new StringBuilder("law left=right and 15<left+right;");
-        for (int i = 0; i < 8; i++) {
-            text.append("person ").append((char) ('a' + i)).append(" left at ").append(i).append(" weight 1 cost 1 chooser;");
+    private static void atRest() {
+        Check.says(16, "At REST: no chooser alone would have less cost times WAIT on the other side.");
+        resting(two(), 1, 2);
+        // As much is not less: both sides are at rest.
+        resting(Check.ferry("law 1;" + People.one("a", "left", 0, "chooser")), 0, 1);
+        // Who pays nothing is at rest wherever.
+        resting(Check.ferry(People.plain("a", "left", 0) + People.person("b", "left", 3, 1, 0, "chooser")), 0, 1);
+        resting(Check.ferry(People.plain("a", "left", 0) + People.person("b", "left", 3, 1, 1, "chooser")), 1);
+        // Its own cost, not that of all: the right is better for a, though it is dear for b.
+        EvenFerry own = Check.ferry("trip 99;law rload=1 or minute=50;" + People.person("a", "left", 10, 1, 1, "chooser")
+                + People.person("b", "left", 12, 0, 90, "plain"));
+        costs(own, 40 + 90 * 38, 0 + 90 * 1428);
+        resting(own, 1);
+        // Alone nobody gains from 0, only both together.
+        EvenFerry both = Check.ferry("law right=6;" + People.plain("a", "right", 0) + People.one("b", "right", 1, "chooser")
+                + People.one("c", "left", 2, "cart") + People.one("d", "left", 3, "chooser"));
+        resting(both, 0, 3);
+        // One wants to be along, the other apart.
+        costs(neverAtRest(), 1 + 1440, 700 + 700, 700 + 700, 1 + 1440);
+        resting(neverAtRest());
+    }
+
+    /** Along a goes at 1 and b stays for the night, apart both go at 700: a wants to be along, b apart. */
+    private static EvenFerry neverAtRest() {
+        return Check.ferry("room 1;law minute=1 and(lload=3 or rload=3)or(minute=700 and lload and rload);"
+                + People.person("a", "left", 0, 2, 1, "chooser") + People.person("b", "left", 0, 1, 1, "chooser"));
+    }
+
+    private static void choice() {
+        EvenFerry x = two();
+        Check.says(14, "BEST CHOICE, what 0: COST, 1: as bits");
+        Check.due("choice(0)", x.choice(0), 10);
+        Check.due("choice(1)", x.choice(1), 1);
+        EvenFerry none = Check.ferry("law 1;" + People.plain("a", "left", 3) + People.plain("b", "left", 4));
+        Check.due("choice(0) without choosers", none.choice(0), 9);
+        Check.due("choice(1) without choosers", none.choice(1), 0);
+        EvenFerry last = Check.ferry("trip 0;law rload=560;" + eight());
+        Check.due("choice(1): all on the right", last.choice(1), 255);
+        Check.says(14, "1: as bits; NONE: another what.");
+        Check.due("choice(2)", x.choice(2), -1);
+        for (int other : OTHERS) {
+            Check.due("choice(" + other + ")", x.choice(other), -1);
         }
-        EvenFerry x = Check.ferry(text.toString());
-        Check.due("choice(0)", x.choice(0), 28);
-        Check.due("choice(1)", x.choice(1), 15);
-        // 70 even ones, and those where no single change makes them even: not 3 or 5 of 8.
-        Check.due("rests()", x.rests(), 256 - 2 * 56);
-        Check.due("rest(0)", x.rest(0), 0);
-        Check.due("rest(143)", x.rest(143), 255);
-        Check.due("rest(144)", x.rest(144), -1);
+    }
+
+    private static void chosen() {
+        Check.says(15, "COST of a CHOICE");
+        costs(two(), NIGHT, 10, 10, NIGHT);
+        EvenFerry x = Check.ferry("law left=right and 15<left+right;" + eight());
         Check.due("chosen(240)", x.chosen(240), 28);
         Check.due("chosen(255)", x.chosen(255), 8 * 1440 - 28);
+        Check.says(15, "COST of a CHOICE; NONE: no such bits.");
         Check.due("chosen(256)", x.chosen(256), -1);
-        x.use(-1);
-        // One boat: all at once is still the best.
-        Check.due("choice(0) by another law", x.choice(0), 28);
-        Check.due("choice(1) by another law", x.choice(1), 15);
-        EvenFerry y = Check.ferry("trip 0;" + text.substring(text.indexOf("person")));
-        Check.due("choice(0) without a trip", y.choice(0), 4);
-        Check.due("choice(1) without a trip", y.choice(1), 0b01010101);
+        Check.due("chosen(4)", two().chosen(4), -1);
+        EvenFerry none = Check.ferry(People.plain("a", "left", 3));
+        Check.due("chosen(0) without choosers", none.chosen(0), 1437);
+        Check.due("chosen(1) without choosers", none.chosen(1), -1);
+        for (int other : OTHERS) {
+            Check.due("chosen(" + other + ")", x.chosen(other), -1);
+            Check.due("chosen(" + other + ") without choosers", none.chosen(other), -1);
+        }
+    }
+
+    private static void rests() {
+        Check.says(16, "How many CHOICES are at REST.");
+        Check.due("rests() without choosers", Check.ferry(People.plain("a", "left", 3)).rests(), 1);
+        Check.due("rests() of two", two().rests(), 2);
+        Check.due("rests(), all", Check.ferry("law 0;" + eight()).rests(), 256);
+        // 70 even ones, and those that no single change makes even: not 3 or 5 of 8.
+        Check.due("rests() of eight", Check.ferry("law left=right and 15<left+right;" + eight()).rests(), 256 - 2 * 56);
+        Check.due("rests(), none", neverAtRest().rests(), 0);
+    }
+
+    private static void rest() {
+        Check.says(17, "The i-th of these as bits, the least first");
+        EvenFerry x = Check.ferry("law left=right and 15<left+right;" + eight());
+        int i = 0;
+        for (int sides = 0; sides < 256; sides++) {
+            if (Integer.bitCount(sides) != 3 && Integer.bitCount(sides) != 5) {
+                Check.due("rest(" + i + ")", x.rest(i), sides);
+                i++;
+            }
+        }
+        Check.says(17, "the least first; NONE: none such.");
+        Check.due("rest(144)", x.rest(144), -1);
+        Check.due("rest(255) of all", Check.ferry("law 0;" + eight()).rest(255), 255);
+        Check.due("rest(256) of all", Check.ferry("law 0;" + eight()).rest(256), -1);
+        Check.due("rest(0) of none", neverAtRest().rest(0), -1);
+        Check.due("rest(0) of a new object", new EvenFerry().rest(0), 0);
+        Check.due("rest(1) of a new object", new EvenFerry().rest(1), -1);
+        for (int other : OTHERS) {
+            Check.due("rest(" + other + ")", x.rest(other), -1);
+        }
     }
 }

@@ -1,19 +1,44 @@
 import java.nio.charset.StandardCharsets;
 import java.util.NoSuchElementException;
 
-/** What the tests share: answers held against those that are due, and texts fed as longs. */
+/** What the tests share: sentences of the document, answers held against those that are due, texts fed as longs. */
 final class Check {
     private static int done = 0;
     private static int wrong = 0;
+    private static int sentences = 0;
+    private static int doneBefore = 0;
+    private static String sentence = "";
 
     private Check() {
+    }
+
+    /** The answers that follow, up to the next sentence, are what this sentence of a promise asks for. */
+    static void says(int promise, String words) {
+        endSentence();
+        sentences++;
+        sentence = "promise " + promise + ", \"" + words + "\": ";
+        doneBefore = done;
+        if (!Document.says(promise, words)) {
+            blame("it is not in the document");
+        }
+    }
+
+    private static void endSentence() {
+        if (!sentence.isEmpty() && done == doneBefore) {
+            blame("nothing was tested");
+        }
+        sentence = "";
+    }
+
+    private static void blame(String what) {
+        wrong++;
+        System.out.println(sentence + what);
     }
 
     static void due(String call, long got, long want) {
         done++;
         if (got != want) {
-            wrong++;
-            System.out.println(call + " answered " + got + ", due is " + want);
+            blame(call + " answered " + got + ", due is " + want);
         }
     }
 
@@ -57,18 +82,23 @@ final class Check {
     /** A new ferry on the river that a right text tells. */
     static EvenFerry ferry(String text) {
         EvenFerry ferry = new EvenFerry();
-        due("river() of " + text, read(ferry, text), 0);
+        due("river() of '" + text + "'", read(ferry, text), 0);
         return ferry;
     }
 
     static void fault(String text, int kind, int place) {
-        EvenFerry ferry = new EvenFerry();
-        due("river() of '" + text + "'", read(ferry, text), kind + 16 * place);
-        due("count(8) behind it", ferry.count(8), 0);
+        due("river() of '" + text + "'", read(new EvenFerry(), text), kind + 16 * place);
+    }
+
+    static void counts(EvenFerry ferry, int... due) {
+        for (int what = 0; what < due.length; what++) {
+            due("count(" + what + ")", ferry.count(what), due[what]);
+        }
     }
 
     static void end() {
-        System.out.println(done + " answers, " + wrong + " not as due");
+        endSentence();
+        System.out.println(sentences + " sentences, " + done + " answers, " + wrong + " not as due");
         if (wrong != 0 || done == 0) {
             System.exit(1);
         }
