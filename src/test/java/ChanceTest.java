@@ -262,7 +262,13 @@ final class ChanceTest {
     private static void ofAllDays() {
         Check.says(24, "Of all days: ringings, those who came, minutes waited, those who spend the NIGHT, the longest WAIT.");
         Drawn drawn = new Drawn(9, 5, 30, 1, 2);
-        lots(Check.ferry("come 30;law 0;"), 9, 5, 0, drawn.all, drawn.toMidnight, drawn.all, drawn.longest);
+        EvenFerry asked = Check.ferry("come 30;law 0;");
+        lots(asked, 9, 5, 0, drawn.all, drawn.toMidnight, drawn.all, drawn.longest);
+        // Of these days alone, not of those asked ahead of them.
+        for (int seed = 0; seed < 9; seed++) {
+            Drawn one = new Drawn(seed, 1, 30, 1, 2);
+            lots(asked, seed, 1, 0, one.all, one.toMidnight, one.all, one.longest);
+        }
         lots(Check.ferry("come 30;trip 0;law 1;"), 9, 5, drawn.all, drawn.all, 0, 0, 0);
         lots(Check.ferry("come 1000;trip 0;law 1;side 1 of 3;"), 7, 2, 600, 600, 0, 0, 0);
         // All come by 299; at 1000 up to 40 of each bank go, the others stay.
@@ -271,6 +277,7 @@ final class ChanceTest {
             waited += 1440 - at;
         }
         EvenFerry x = Check.ferry("come 1000;law minute=1000;");
+        lots(x, 3, 1, 1, 300, waited - 80 * 440, 300 - 80);
         Check.due("lots(3, 2, 0)", x.lots(3, 2, 0), 2);
         Check.due("lots(3, 2, 2)", x.lots(3, 2, 2), 2 * (waited - 80 * 440));
         Check.due("lots(3, 2, 3)", x.lots(3, 2, 3), 2 * (300 - 80));
@@ -284,6 +291,9 @@ final class ChanceTest {
         EvenFerry x = Check.ferry("come 1000;room 1;trip 99;law left+right=600;");
         Check.due("lots(6, 9, 0)", x.lots(6, 9, 0), 9);
         Check.due("lots(6, 9, 3)", x.lots(6, 9, 3), 9 * 298);
+        EvenFerry few = Check.ferry("come 9;law 0;");
+        Check.due("lots(6, 9, 1)", few.lots(6, 9, 1), new Drawn(6, 9, 9, 1, 2).all);
+        Check.due("lots(6, 9, 3)", few.lots(6, 9, 3), new Drawn(6, 9, 9, 1, 2).all);
         EvenFerry first = Check.ferry("come 1000;law minute=0 and 2<left+right;");
         Check.due("lots(6, 50, 0): more than one in the first minute", first.lots(6, 50, 0), 0);
         // A boat is there when a day begins, though one went late in the day ahead.

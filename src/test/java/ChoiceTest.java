@@ -34,6 +34,9 @@ final class ChoiceTest {
     }
 
     private static final int NIGHT = 1440 + 2 * 1430;
+    // On the right a goes at once, and the boat is away when b could go.
+    private static final String DEAR_FOR_THE_OTHER = "trip 99;law rload=1 or minute=50;"
+            + People.person("a", "left", 10, 1, 1, "chooser") + People.person("b", "left", 12, 0, 90, "plain");
 
     private static String eight() {
         StringBuilder text = new StringBuilder();
@@ -46,14 +49,13 @@ final class ChoiceTest {
     private static void bits() {
         Check.says(15, "CHOICE: sides of all choosers, as bits (their numbers among choosers, 1: right)");
         // Weights tell them apart: the second and the fourth told are choosers 0 and 1.
-        EvenFerry x = Check.ferry("law lload=2 and rload=5 and minute=50 or(lload=5 and rload=2 and minute=60)"
-                + "or(lload=7 and minute=70)or(rload=7 and minute=80);" + People.person("a", "right", 0, 0, 1, "plain")
-                + People.person("b", "right", 0, 2, 0, "chooser") + People.person("c", "left", 0, 0, 0, "cart")
+        EvenFerry x = Check.ferry("law lload=22 and rload=15 and minute=50 or(lload=25 and rload=12 and minute=60)"
+                + "or(lload=27 and minute=70)or(rload=17 and minute=80);" + People.person("a", "right", 0, 10, 1, "plain")
+                + People.person("b", "right", 0, 2, 0, "chooser") + People.person("c", "left", 0, 20, 0, "cart")
                 + People.person("d", "left", 0, 5, 0, "chooser"));
-        // 0: both left; 1: b right; 2: d right; 3: both right.
+        // 0: both left; 1: b right; 2: d right; 3: both right. The others keep their sides.
         costs(x, 70, 60, 50, 80);
         Check.due("all(0), as told: b right, d left", x.all(0), 60);
-        // Others keep their sides.
         Check.due("person(1, 0)", x.person(1, 0), 1);
         Check.due("person(3, 0)", x.person(3, 0), 0);
     }
@@ -64,12 +66,10 @@ final class ChoiceTest {
         costs(x, 1440 + 1437, 3);
         Check.due("choice(0)", x.choice(0), 3);
         Check.due("choice(1)", x.choice(1), 1);
-        // Least for all, though the chooser alone would have it better on the left.
-        EvenFerry all = Check.ferry("law lload=0 and rload=0 and minute=20 or lload;trip 99;"
-                + People.person("a", "right", 0, 0, 1, "plain") + People.person("b", "left", 10, 1, 1, "chooser")
-                + People.person("c", "right", 12, 0, 50, "plain"));
-        // On the left b goes at once with a, and c waits for the boat and the law; on the right nobody goes.
-        costs(all, 10 + 0 + 50 * 1428, 1440 + 1430 + 50 * 1428);
+        // Least for all, though on the right it is less for the chooser.
+        EvenFerry all = Check.ferry(DEAR_FOR_THE_OTHER);
+        costs(all, 40 + 90 * 38, 0 + 90 * 1428);
+        Check.due("choice(0)", all.choice(0), 40 + 90 * 38);
         Check.due("choice(1)", all.choice(1), 0);
         Check.due("choice(0) of eight", Check.ferry("law left=right and 15<left+right;" + eight()).choice(0), 28);
     }
@@ -95,8 +95,7 @@ final class ChoiceTest {
         resting(Check.ferry(People.plain("a", "left", 0) + People.person("b", "left", 3, 1, 0, "chooser")), 0, 1);
         resting(Check.ferry(People.plain("a", "left", 0) + People.person("b", "left", 3, 1, 1, "chooser")), 1);
         // Its own cost, not that of all: the right is better for a, though it is dear for b.
-        EvenFerry own = Check.ferry("trip 99;law rload=1 or minute=50;" + People.person("a", "left", 10, 1, 1, "chooser")
-                + People.person("b", "left", 12, 0, 90, "plain"));
+        EvenFerry own = Check.ferry(DEAR_FOR_THE_OTHER);
         costs(own, 40 + 90 * 38, 0 + 90 * 1428);
         resting(own, 1);
         // Alone nobody gains from 0, only both together.

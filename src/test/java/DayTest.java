@@ -269,10 +269,10 @@ final class DayTest {
     }
 
     private static void all() {
-        EvenFerry x = Check.ferry("law minute<30;" + People.plain("a", "left", 3) + People.plain("b", "right", 5)
+        EvenFerry x = Check.ferry("law minute=7 or minute=20;" + People.plain("a", "left", 3) + People.plain("b", "right", 15)
                 + People.plain("c", "right", 1430) + People.plain("d", "left", 1435));
         Check.says(9, "In all, what 0: COST");
-        Check.due("all(0)", x.all(0), 0 + 8 + 10 + 5);
+        Check.due("all(0)", x.all(0), 4 + 5 + 10 + 5);
         Check.says(9, "1: the longest WAIT (0 without people)");
         Check.due("all(1)", x.all(1), 10);
         Check.due("all(1) without people", Check.ferry("law 1;").all(1), 0);

@@ -54,6 +54,9 @@ final class RiverTest {
         Check.fault("law;", 1, 3);
         Check.fault("person a at", 1, 9);
         Check.fault("person a left 5", 1, 14);
+        Check.fault("person a left 5 weight 7 cost 8 dog;", 1, 14);
+        Check.fault("person a left at 5 7 cost 8 dog;", 1, 19);
+        Check.fault("person a left at 5 weight 7 8 dog;", 1, 28);
         Check.fault("person a left at at", 1, 17);
         Check.fault("person a left at 5 cost", 1, 19);
         Check.fault("person a left at 5 weight cost", 1, 26);

@@ -1,3 +1,5 @@
+import java.util.NoSuchElementException;
+
 /** Promises 11 to 13: how many to send so that it goes now, and what one who turns back may ask. */
 final class SendTurnTest {
     private static final int[] OTHERS = {Integer.MIN_VALUE, -1, Integer.MAX_VALUE};
@@ -70,6 +72,7 @@ final class SendTurnTest {
         send(seven, 17, 3, 0);
         send(seven, 16, -1, -1);
         send(seven, 18, -1, -1);
+        send(Check.ferry("law wait=7 and right=6;" + one), 17, 2, 1);
         // They come ahead of that minute's ringings alone, not earlier.
         send(Check.ferry("law minute=9 and left=2;" + one), 10, -1, -1);
     }
@@ -157,7 +160,12 @@ final class SendTurnTest {
     }
 
     private static void turn(EvenFerry x, int person, int minute, int due) {
-        Check.due("turn(" + person + ", " + minute + ")", x.turn(person, minute), due);
+        String call = "turn(" + person + ", " + minute + ")";
+        try {
+            Check.due(call, x.turn(person, minute), due);
+        } catch (NoSuchElementException e) {
+            Check.due(call + " throws", true, false);
+        }
     }
 
     private static void goesHome() {

@@ -125,6 +125,7 @@ final class TapeTest {
         Check.fault("law notleft;", 1, 4);
         Check.due("count(3) of room 12;", Check.ferry("room 12;").count(3), 12);
         Check.fault("room 123;", 4, 5);
+        Check.ferry("law 123+4567;");
         Check.ferry("person atleft left at 1 weight 1 cost 1 dog;");
     }
 

@@ -248,6 +248,9 @@ final class ToldTest {
         x.use(-1);
         Check.read(x, "law 0;law 0;law 0;");
         x.tell(1000);
+        Check.due("rings() of another river", x.rings(), 0);
+        Check.due("rests() of another river", x.rests(), 1);
+        Check.due("lots(1, 9, 1) of another river", x.lots(1, 9, 1) > 0, true);
         Check.feed(x, "room 5");
         Check.due("mark(3, true)", x.mark(3, true), true);
         Check.counts(x, 5, 2, 1, 3, 4, 2, 1, 2, 6);
