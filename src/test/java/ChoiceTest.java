@@ -82,6 +82,12 @@ final class ChoiceTest {
         EvenFerry y = Check.ferry("law 1;" + People.one("a", "right", 0, "chooser") + People.one("b", "right", 0, "chooser"));
         costs(y, 0, 0, 0, 0);
         Check.due("choice(1)", y.choice(1), 0);
+        // Whatever was the best by another law or on another river.
+        EvenFerry again = Check.ferry("law rload=140;law 0;" + People.one("a", "left", 0, "chooser")
+                + People.one("b", "left", 0, "chooser"));
+        Check.due("choice(1): both on the right", again.choice(1), 3);
+        again.use(1);
+        Check.due("choice(1) by another law", again.choice(1), 0);
         EvenFerry z = Check.ferry("law left=right and 15<left+right;" + eight());
         Check.due("choice(1), four of eight", z.choice(1), 15);
     }

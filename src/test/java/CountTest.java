@@ -138,6 +138,12 @@ final class CountTest {
         EvenFerry none = Check.ferry(PAIR);
         Check.due("use(-1) without laws", none.use(-1), true);
         Check.due("rings()", none.rings(), 1);
+        EvenFerry children = Check.ferry("law 0;" + PAIR.replace("plain", "child"));
+        children.use(-1);
+        Check.due("ring(0, 0) of children: 0 is less than 1", children.ring(0, 0), 20);
+        EvenFerry uneven = Check.ferry("law 1;" + PAIR + People.one("c", "left", 15, "child"));
+        uneven.use(-1);
+        Check.due("rings() of 3 and 2", uneven.rings(), 0);
         EvenFerry dogs = Check.ferry("law 1;" + PAIR.replace("plain", "dog"));
         Check.due("rings()", dogs.rings(), 2);
         dogs.use(-1);

@@ -121,6 +121,8 @@ final class DayTest {
         String four = People.plains(4, "left", 2);
         rings(Check.ferry("room 1;trip 5;law 1;" + four), 2, 7, 12, 17);
         rings(Check.ferry("room 1;trip 5;boats 2;law 1;" + four), 2, 2, 7, 7);
+        // All boats are there when the day begins.
+        rings(Check.ferry("room 1;trip 5;boats 2;law 1;" + People.plains(3, "left", 0)), 0, 0, 5);
         // The second boat is there though the first is not.
         rings(Check.ferry("trip 50;boats 2;law 1;" + People.plain("a", "left", 3) + People.plain("b", "left", 4)
                 + People.plain("c", "left", 5)), 3, 4, 53);

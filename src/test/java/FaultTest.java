@@ -189,6 +189,7 @@ final class FaultTest {
         Check.due("river() without laws", Check.read(y, pair), 0);
         Check.due("count(2)", y.count(2), -1);
         Check.due("ring(0, 0)", y.ring(0, 0), 9);
+        Check.due("rings() of children: 0 is less than 1", Check.ferry(pair.replace("plain", "child")).rings(), 1);
         Check.due("rings() of dogs: 0 is not less than 0", Check.ferry(pair.replace("plain", "dog")).rings(), 0);
         Check.says(3, "no ringing is told; MARKS stay");
         EvenFerry z = Check.ferry("room 9;law 1;" + pair);

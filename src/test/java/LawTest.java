@@ -172,6 +172,9 @@ final class LawTest {
         Check.due("wait, whoever came behind", firstRing("wait=25"), 35);
         Check.due("wait to the end", firstRing("wait=1429"), 1439);
         Check.due("wait beyond the end", firstRing("wait=1430"), -1);
+        Check.due("wait and minute go on together", firstRing("wait=7 and minute=17"), 17);
+        Check.due("wait and minute go on together", firstRing("wait=700 and minute=710"), 710);
+        Check.due("wait is not minute", firstRing("wait=7 and minute=18"), -1);
         String right = People.plain("a", "left", 30) + People.plain("b", "right", 10);
         Check.due("wait of the first on the right", Check.ferry("law wait=25;" + right).ring(0, 0), 35);
         // a goes at 1: then b has waited longest.

@@ -192,9 +192,14 @@ final class SendTurnTest {
         EvenFerry last = Check.ferry("law 0;" + People.one("a", "left", 1439, "turner"));
         turn(last, 0, 1439, 0);
         Check.turnThrows(last, 0, 1438);
-        // Nothing is changed by asking.
+        // Nothing is changed by asking, in the told day or in another one.
+        turn(x, 0, 199, told - (100 * 2 + 0 + 1140));
         Check.due("ring(0, 0)", x.ring(0, 0), 300);
         Check.due("bank(0, 250, 0)", x.bank(0, 250, 0), 2);
+        Check.due("judged(0)", x.judged(0), 300);
+        Check.due("send(250, 0)", x.send(250, 0), 1);
+        turn(x, 0, 199, told - (100 * 2 + 0 + 1140));
+        Check.due("chosen(0)", x.chosen(0), x.all(0));
     }
 
     /** Others wait ahead of and behind the one who goes home: the row closes up. */
